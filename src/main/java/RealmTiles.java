@@ -149,7 +149,7 @@ public final class RealmTiles {
             case 0:
                 return table.kindOf(region);
             case 1:
-                return table.regions.tileCount(region);
+                return Integer.bitCount(table.regions.tileBits[region]);
             case 2:
                 return table.regions.shields[region];
             case 3:
@@ -416,18 +416,12 @@ public final class RealmTiles {
             return root;
         }
 
-        int tileCount(int root) {
-            return Integer.bitCount(tileBits[root]);
-        }
-
-        void join(int piece, int other) {
-            int a = rootOf(piece);
-            int b = rootOf(other);
-            if (a == b) {
+        void join(int root, int otherRoot) {
+            if (root == otherRoot) {
                 return;
             }
-            int low = Math.min(a, b);
-            int high = Math.max(a, b);
+            int low = Math.min(root, otherRoot);
+            int high = Math.max(root, otherRoot);
             joined[joins] = high;
             tileBitsBefore[joins] = tileBits[low];
             joins++;
@@ -473,6 +467,7 @@ public final class RealmTiles {
         private final int[] at = new int[CELLS];
         // How many neighbours with a tile a cell has: a tile may only be laid where this is above 0.
         private final int[] near = new int[CELLS];
+        private final int[] around = new int[CELLS];
         private final int[] cellOf = new int[MAX_TILES];
         private final int[] typeOf = new int[MAX_TILES];
         private final int[] turnOf = new int[MAX_TILES];
@@ -560,6 +555,9 @@ public final class RealmTiles {
             for (int side = 0; side < SIDES; side++) {
                 joinSide(tile, side);
             }
+            for (int n = 0; n < AROUND_STEPS.length; n++) {
+                around[cell + AROUND_STEPS[n]]++;
+            }
         }
 
         void liftTile() {
@@ -569,6 +567,9 @@ public final class RealmTiles {
             for (int side = 0; side < SIDES; side++) {
                 near[cell + SIDE_STEPS[side]]--;
                 openSide(tile, side, 1);
+            }
+            for (int n = 0; n < AROUND_STEPS.length; n++) {
+                around[cell + AROUND_STEPS[n]]--;
             }
             at[cell] = NONE;
             tiles = tile;
@@ -593,7 +594,9 @@ public final class RealmTiles {
             }
             for (int n = 0; n < SIDE_SLOTS; n++) {
                 int slot = side * SIDE_SLOTS + n;
-                regions.join(pieceAt(tile, slot), pieceAt(other, slotBeside(slot)));
+                int piece = pieceAt(tile, slot);
+                int beside = pieceAt(other, slotBeside(slot));
+                regions.join(regions.rootOf(piece), regions.rootOf(beside));
             }
         }
 
@@ -622,20 +625,10 @@ public final class RealmTiles {
                 case PATH:
                     return regions.open[root] == 0;
                 case CLOISTER:
-                    return tilesAround(root / PARTS) == AROUND_STEPS.length;
+                    return around[cellOf[root / PARTS]] == AROUND_STEPS.length;
                 default:
                     return false;
             }
-        }
-
-        private int tilesAround(int tile) {
-            int found = 0;
-            for (int n = 0; n < AROUND_STEPS.length; n++) {
-                if (at[cellOf[tile] + AROUND_STEPS[n]] != NONE) {
-                    found++;
-                }
-            }
-            return found;
         }
 
         /** The cloister on the tile at a cell: a region of its own, as it has no slots; NONE when there is none. */
@@ -648,24 +641,26 @@ public final class RealmTiles {
         }
 
         int finishedWorth(int root) {
+            int tileCount = Integer.bitCount(regions.tileBits[root]);
             switch (kindOf(root)) {
                 case CITY:
-                    return 2 * (regions.tileCount(root) + regions.shields[root]);
+                    return 2 * (tileCount + regions.shields[root]);
                 case PATH:
-                    return regions.tileCount(root);
+                    return tileCount;
                 default:
                     return 1 + AROUND_STEPS.length;
             }
         }
 
         int finalWorth(int root) {
+            int tileCount = Integer.bitCount(regions.tileBits[root]);
             switch (kindOf(root)) {
                 case CITY:
-                    return regions.tileCount(root) + regions.shields[root];
+                    return tileCount + regions.shields[root];
                 case PATH:
-                    return regions.tileCount(root);
+                    return tileCount;
                 case CLOISTER:
-                    return 1 + tilesAround(root / PARTS);
+                    return 1 + around[cellOf[root / PARTS]];
                 default:
                     return 3 * finishedCitiesAt(root);
             }
@@ -936,6 +931,9 @@ public final class RealmTiles {
 
     /** Goes through all lines by steps of the game itself, and takes every one of them back. */
     private static final class Seeker {
+        // Each round makes a position or ends a level, and each position begins at most one level.
+        private static final int MAX_ROUNDS = 2 * MAX_BUDGET + 4;
+
         private final Match match;
         private final Table table;
         // At most one tile is left behind the drawn one, so no line is longer than two turns.
@@ -956,46 +954,48 @@ public final class RealmTiles {
         /** False when there are more positions than the budget; then what was found before stays. */
         boolean seek(int budget) {
             int stepsBefore = match.steps();
-            boolean enough = lookThrough(budget);
+            int positions = 0;
+            int depth = 0;
+            levels[0].begin(match.mover);
+            for (int n = 0; n < MAX_ROUNDS && depth >= 0 && positions <= budget; n++) {
+                if (makeNextLine(levels[depth])) {
+                    positions++;
+                    depth = lookBehindLine(depth);
+                } else {
+                    depth--;
+                    endLine(depth);
+                }
+            }
             for (int n = match.steps(); n > stepsBefore; n--) {
                 match.stepBack();
             }
-            if (enough) {
-                spot = levels[0].bestSpot;
-                part = levels[0].bestPart;
-                value = levels[0].value;
+            if (positions > budget) {
+                return false;
             }
-            return enough;
+            spot = levels[0].bestSpot;
+            part = levels[0].bestPart;
+            value = levels[0].value;
+            return true;
         }
 
-        private boolean lookThrough(int budget) {
-            int depth = 0;
-            int positions = 0;
-            levels[0].begin(match.mover);
-            // Each round makes a position or ends a level, and each position begins at most one level.
-            for (int n = 0; n < 2 * MAX_BUDGET + 3 && depth >= 0; n++) {
-                if (!makeNextLine(levels[depth])) {
-                    depth--;
-                    if (depth >= 0) {
-                        levels[depth].weigh(levels[depth + 1].finals, match.players);
-                        match.stepBack();
-                    }
-                    continue;
-                }
-                positions++;
-                if (positions > budget) {
-                    return false;
-                }
-                if (match.inHand != NONE && depth + 1 < levels.length) {
-                    depth++;
-                    levels[depth].begin(match.mover);
-                } else {
-                    match.reckonFinals();
-                    levels[depth].weigh(match.finals, match.players);
-                    match.stepBack();
-                }
+        /** The depth at which the look goes on: that of the next player, or the same one when the game is over. */
+        private int lookBehindLine(int depth) {
+            if (match.inHand != NONE && depth + 1 < levels.length) {
+                levels[depth + 1].begin(match.mover);
+                return depth + 1;
             }
-            return true;
+            match.reckonFinals();
+            levels[depth].weigh(match.finals, match.players);
+            match.stepBack();
+            return depth;
+        }
+
+        /** When all lines of the next player were there, their best one tells what comes of the line before them. */
+        private void endLine(int depth) {
+            if (depth >= 0) {
+                levels[depth].weigh(levels[depth + 1].finals, match.players);
+                match.stepBack();
+            }
         }
 
         /** With the last line's follower taken back: the next part, or else the next spot; false when all were there. */

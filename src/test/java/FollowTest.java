@@ -3,6 +3,8 @@ import java.util.Arrays;
 /** Promise 10: follow, and what is scored by it. */
 public final class FollowTest {
     private static final int BAD = RealmTiles.BAD;
+    /** The places around the centre, sides and corners by turns. */
+    private static final int[] RING = {1, 0, 1, 1, 0, 1, -1, 1, -1, 0, -1, -1, 0, -1, 1, -1};
 
     public static void main(String[] args) {
         refusals();
@@ -11,6 +13,8 @@ public final class FollowTest {
         paths();
         ties();
         cloisters();
+        eachLastOne();
+        cloisterThatFillsAGap();
         fieldsStay();
         lastFollower();
         severalAtOnce();
@@ -124,22 +128,44 @@ public final class FollowTest {
         Check.due("follower of player 1", x.about(0, 6), 1);
     }
 
-    private static void cloisters() {
+    private static RealmTiles abbeys() {
         Tile[] tiles = new Tile[24];
         Arrays.fill(tiles, Tile.ABBEY);
-        RealmTiles x = Tile.gameOf(2, tiles);
+        return Tile.gameOf(2, tiles);
+    }
+
+    private static void cloisters() {
+        RealmTiles x = abbeys();
         Tile.turn(x, 0, 0, 0, 1, 0);
-        int[] ring = {1, 0, 1, 1, 0, 1, -1, 1, -1, 0, -1, -1, 0, -1, 1, -1};
         for (int n = 0; n < 7; n++) {
-            Tile.turn(x, ring[2 * n], ring[2 * n + 1], n % 4, -1, 0);
+            Tile.turn(x, RING[2 * n], RING[2 * n + 1], n % 4, -1, 0);
         }
         Check.due("not finished", x.about(1, 4), 0);
         Tile.turn(x, 1, -1, 0, -1, 9);
         points(x, 9, 0);
         left(x, 7, 7);
         Check.due("finished", x.about(1, 4), 1);
-        // The last one of a ring is a cloister itself: it is scored with its own follower.
-        x = Tile.gameOf(2, tiles);
+    }
+
+    /** Whichever of the eight tiles around it comes last. */
+    private static void eachLastOne() {
+        for (int last = 0; last < 8; last++) {
+            RealmTiles x = abbeys();
+            Tile.turn(x, 0, 0, 0, 1, 0);
+            for (int n = 0; n < 8; n++) {
+                // The sides come before the corners, so that each tile has a neighbour.
+                int at = n < 4 ? 2 * n : 2 * n - 7;
+                if (at != last) {
+                    Tile.turn(x, RING[2 * at], RING[2 * at + 1], 0, -1, 0);
+                }
+            }
+            Tile.turn(x, RING[2 * last], RING[2 * last + 1], 0, -1, 9);
+        }
+    }
+
+    /** The last one of a ring is a cloister itself: it is scored with its own follower. */
+    private static void cloisterThatFillsAGap() {
+        RealmTiles x = abbeys();
         Tile.turn(x, 0, 0, 0, 1, 0);
         int[] way = {1, 0, 2, 0, 2, 1, 2, 2, 1, 2, 0, 2, 0, 1};
         for (int n = 0; n < 7; n++) {
@@ -167,9 +193,7 @@ public final class FollowTest {
     }
 
     private static void lastFollower() {
-        Tile[] tiles = new Tile[24];
-        Arrays.fill(tiles, Tile.ABBEY);
-        RealmTiles x = Tile.gameOf(2, tiles);
+        RealmTiles x = abbeys();
         for (int n = 0; n < 14; n++) {
             Tile.turn(x, n < 10 ? n : 9, n < 10 ? 0 : n - 9, 0, 1, 0);
         }

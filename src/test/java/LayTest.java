@@ -10,6 +10,8 @@ public final class LayTest {
         roads();
         gaps();
         reach();
+        ends();
+        turnsOutOfRange();
         Check.end();
     }
 
@@ -94,6 +96,41 @@ public final class LayTest {
         refused(x, 1, 1, 2);
         refused(x, 1, 1, 3);
         Check.due("place in the gap", x.place(1, 1, 0), 3);
+    }
+
+    /** All four ends of the table, in one row of tiles and one column. */
+    private static void ends() {
+        int[] steps = {0, -1, 1, 0, 0, 1, -1, 0};
+        for (int way = 0; way < 8; way += 2) {
+            int dx = steps[way];
+            int dy = steps[way + 1];
+            Tile[] tiles = new Tile[12];
+            Arrays.fill(tiles, Tile.MEADOW);
+            RealmTiles x = Tile.gameOf(2, tiles);
+            for (int n = 0; n < 10; n++) {
+                Tile.turn(x, n * dx, n * dy, 0, -1, 0);
+            }
+            refused(x, 10 * dx, 10 * dy, 0);
+            Check.due("at the end", x.region(9 * dx, 9 * dy, 0), 0);
+            Check.due("beyond the end", x.region(10 * dx, 10 * dy, 0), RealmTiles.NONE);
+            // The end of the table does not shut a slot.
+            Check.due("open slots", x.about(0, 3), 2 * 10 * 3 + 6);
+            int last = 4 * (2 * 10 + 1) - 1;
+            Check.due("the last fit", x.fits(last, 2), 3);
+            Check.due("behind the last fit", x.fits(last + 1, 2), FAR);
+        }
+    }
+
+    /** A turn out of its range does not lay the tile at the place before or behind. */
+    private static void turnsOutOfRange() {
+        RealmTiles x = Tile.gameOf(2, Tile.MEADOW, Tile.MEADOW);
+        Tile.turn(x, 0, 0, 0, -1, 0);
+        for (int px = -3; px <= 3; px++) {
+            for (int turn = 4; turn < 9; turn++) {
+                refused(x, px, 0, turn);
+                refused(x, px, 0, 3 - turn);
+            }
+        }
     }
 
     private static void reach() {

@@ -8,6 +8,7 @@ public final class PlayerTest {
         cloister();
         farmers();
         touchedTwice();
+        twoFieldsOfOneTile();
         ties();
         moreThanTheOther();
         betweenLayingAndFollowing();
@@ -93,6 +94,22 @@ public final class PlayerTest {
         Tile.turn(x, 1, 0, 0, -1, 0);
         Check.due("one field", x.region(0, -1, 1), 1);
         finals("one city", x, 3, 0);
+    }
+
+    /** Of two fields of one tile each counts but what it touches itself. */
+    private static void twoFieldsOfOneTile() {
+        Tile street = Tile.of("000111000222", "CFF", 1, 0);
+        RealmTiles x = Tile.gameOf(2, street, Tile.DEAF_GATE, Tile.DEAF_GATE);
+        Tile.turn(x, 0, 0, 0, 2, 0);
+        Tile.turn(x, 0, -1, 2, -1, 0);
+        x.place(0, 1, 0);
+        Check.due("finished", x.about(0, 4), 1);
+        finals("field that touches nothing", x, 0, 0);
+        x.start(2);
+        Tile.turn(x, 0, 0, 0, 1, 0);
+        Tile.turn(x, 0, -1, 2, -1, 0);
+        x.place(0, 1, 0);
+        finals("field that touches the city", x, 3, 0);
     }
 
     private static void ties() {

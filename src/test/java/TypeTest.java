@@ -54,6 +54,7 @@ public final class TypeTest {
         wrong("city without slots", Tile.of("000000000000", "FC"));
         wrong("path without slots", Tile.of("000000000000", "FP"));
         wrong("field without slots", Tile.of("000000000000", "CF"));
+        wrong("part 0 without slots", Tile.of("111111111111", "CF"));
         wrong("part 7 without slots", Tile.of("000000000000", "F......S"));
     }
 

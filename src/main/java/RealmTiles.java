@@ -911,7 +911,8 @@ public final class RealmTiles {
 
         /** What comes of the line at which the look stands. */
         void weigh(int[] comes, int players) {
-            int others = Integer.MIN_VALUE;
+            // Nobody's final points are below 0.
+            int others = 0;
             for (int p = 0; p < players; p++) {
                 if (p != mover) {
                     others = Math.max(others, comes[p]);

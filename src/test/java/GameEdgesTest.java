@@ -14,6 +14,7 @@ public final class GameEdgesTest {
         followersOfAny();
         firstAlone();
         firstTogether();
+        firstWithMore();
         notScoredWithoutFollowers();
         scoredOnce();
         cloistersAround();
@@ -30,12 +31,6 @@ public final class GameEdgesTest {
         Check.end();
     }
 
-    private static RealmTiles gameOfAll(int players, Tile tile, int count) {
-        Tile[] tiles = new Tile[count];
-        Arrays.fill(tiles, tile);
-        return Tile.gameOf(players, tiles);
-    }
-
     private static void points(RealmTiles x, int... want) {
         for (int p = 0; p < want.length; p++) {
             Check.due("points of player " + p, x.player(p, 0), want[p]);
@@ -50,7 +45,7 @@ public final class GameEdgesTest {
 
     private static void allCallsOfSteps() {
         Check.sentence("What it is: An object is used for at most 512 calls after it has been made");
-        RealmTiles x = gameOfAll(2, Tile.ABBEY, 24);
+        RealmTiles x = Tile.gameOfAll(2, Tile.ABBEY, 24);
         int calls = 1 + 24 + 1;
         while (calls + 96 < 512) {
             for (int n = 0; n < 24; n++) {
@@ -144,7 +139,7 @@ public final class GameEdgesTest {
 
     private static void sevenFollowers() {
         Check.sentence("Terms: a follower may be put there when the player has one left");
-        RealmTiles x = gameOfAll(2, Tile.ABBEY, 24);
+        RealmTiles x = Tile.gameOfAll(2, Tile.ABBEY, 24);
         for (int n = 0; n < 14; n++) {
             Check.due("left", x.player(n % 2, 1), 7 - n / 2);
             Tile.turn(x, n < 10 ? n : 9, n < 10 ? 0 : n - 9, 0, 1, 0);
@@ -172,7 +167,7 @@ public final class GameEdgesTest {
 
     private static void followersOfAny() {
         Check.sentence("Terms: and the piece's region has none of any player");
-        RealmTiles x = gameOfAll(2, Tile.ABBEY, 4);
+        RealmTiles x = Tile.gameOfAll(2, Tile.ABBEY, 4);
         Tile.turn(x, 0, 0, 0, 0, 0);
         x.place(1, 0, 0);
         Check.due("one of the other", x.follow(0), BAD);
@@ -219,6 +214,25 @@ public final class GameEdgesTest {
         left(x, 7, 7, 7);
     }
 
+    /** Two gates of player 0 and one of player 1 around a core. */
+    private static void firstWithMore() {
+        RealmTiles x = Tile.gameOf(2, Tile.GATE, Tile.MEADOW, Tile.GATE, Tile.MEADOW, Tile.MEADOW, Tile.GATE, Tile.CORE,
+            Tile.GATE);
+        Tile.turn(x, 0, 0, 0, 0, 0);
+        Tile.turn(x, 1, 0, 0, -1, 0);
+        Tile.turn(x, 1, -1, 3, 0, 0);
+        Tile.turn(x, -1, 0, 0, -1, 0);
+        Tile.turn(x, 2, 0, 0, -1, 0);
+        Tile.turn(x, -1, -1, 1, 0, 0);
+        x.place(0, -1, 0);
+        Check.due("final points of player 0, with two", x.player(0, 2), 4);
+        Check.due("final points of player 1, with one", x.player(1, 2), 0);
+        x.follow(-1);
+        Tile.turn(x, 0, -2, 2, -1, 10);
+        points(x, 10, 0);
+        left(x, 7, 7);
+    }
+
     private static void notScoredWithoutFollowers() {
         Check.sentence("Terms: each finished region [..], if it has followers, is SCORED");
         RealmTiles x = Tile.gameOf(2, Tile.GATE, Tile.GATE);
@@ -261,7 +275,7 @@ public final class GameEdgesTest {
         // The places around both, the corners behind the others; the first four are beside both.
         int[] ring = {0, -1, 1, -1, 0, 1, 1, 1, -1, 0, 2, 0, -1, -1, 2, -1, -1, 1, 2, 1};
         for (int last = 0; last < 4; last++) {
-            RealmTiles x = gameOfAll(2, Tile.ABBEY, 12);
+            RealmTiles x = Tile.gameOfAll(2, Tile.ABBEY, 12);
             Tile.turn(x, 0, 0, 0, 1, 0);
             Tile.turn(x, 1, 0, 0, 1, 0);
             for (int n = 0; n < 10; n++) {
@@ -278,7 +292,7 @@ public final class GameEdgesTest {
     }
 
     private static void cloisterNotAround() {
-        RealmTiles x = gameOfAll(2, Tile.ABBEY, 10);
+        RealmTiles x = Tile.gameOfAll(2, Tile.ABBEY, 10);
         Tile.turn(x, 0, 0, 0, 1, 0);
         int[] ring = {1, 0, 1, 1, 0, 1, -1, 1, -1, 0, -1, -1, 0, -1};
         for (int n = 0; n < 14; n += 2) {
@@ -302,7 +316,7 @@ public final class GameEdgesTest {
         Tile.turn(x, 0, -1, 2, -1, 2);
         points(x, 2, 0);
         // A cloister gets no more than 9, and a tile that closes a gap gets it for its own cloister, too.
-        x = gameOfAll(2, Tile.ABBEY, 9);
+        x = Tile.gameOfAll(2, Tile.ABBEY, 9);
         int[] ring = {0, 0, 1, 0, 2, 0, 2, 1, 2, 2, 1, 2, 0, 2, 0, 1};
         for (int n = 0; n < 16; n += 2) {
             Tile.turn(x, ring[n], ring[n + 1], 0, -1, 0);
@@ -315,7 +329,7 @@ public final class GameEdgesTest {
     private static void turnsGoRound() {
         Check.sentence("Terms: Then it is the next player's turn.");
         for (int players = 2; players <= 3; players++) {
-            RealmTiles x = gameOfAll(players, Tile.ABBEY, 10);
+            RealmTiles x = Tile.gameOfAll(players, Tile.ABBEY, 10);
             for (int n = 0; n < 10; n++) {
                 Check.due("before laying tile " + n, x.game(0), n % players);
                 x.place(n, 0, 0);
@@ -328,7 +342,7 @@ public final class GameEdgesTest {
 
     private static void overAfterTheLast() {
         Check.sentence("Terms: When the list is through, the game is OVER.");
-        RealmTiles x = gameOfAll(3, Tile.MEADOW, 1);
+        RealmTiles x = Tile.gameOfAll(3, Tile.MEADOW, 1);
         Check.due("none is left to be drawn", x.game(5), 0);
         Check.due("but not over", x.game(0), 0);
         x.place(0, 0, 0);
@@ -376,7 +390,7 @@ public final class GameEdgesTest {
 
     private static void finalPointsOfCloisters() {
         Check.sentence("Terms: 1 and 1 for each tile at the places around a cloister");
-        RealmTiles x = gameOfAll(2, Tile.ABBEY, 10);
+        RealmTiles x = Tile.gameOfAll(2, Tile.ABBEY, 10);
         x.place(0, 0, 0);
         Check.due("without a follower", x.player(0, 2), 0);
         x.follow(1);
@@ -452,7 +466,7 @@ public final class GameEdgesTest {
 
     private static void steps() {
         Check.sentence("Terms: STEPS of the game are laying a tile and putting a follower or none; they can be taken back.");
-        RealmTiles x = gameOfAll(2, Tile.ABBEY, 2);
+        RealmTiles x = Tile.gameOfAll(2, Tile.ABBEY, 2);
         Check.due("none", x.game(3), 0);
         x.place(0, 0, 0);
         Check.due("laid", x.game(3), 1);

@@ -29,12 +29,6 @@ public final class SearchEdgesTest {
         Check.end();
     }
 
-    private static RealmTiles gameOfAll(int players, Tile tile, int count) {
-        Tile[] tiles = new Tile[count];
-        Arrays.fill(tiles, tile);
-        return Tile.gameOf(players, tiles);
-    }
-
     private static void best(String what, RealmTiles x, int... want) {
         for (int k = 0; k < 4; k++) {
             Check.due(what + ": best(" + k + ")", x.best(k), want.length == 0 ? FAR : want[k]);
@@ -57,7 +51,7 @@ public final class SearchEdgesTest {
     private static void howManyAreLeft() {
         Check.sentence("Promise 15: NONE when [..] more than one is left to be drawn");
         for (int behind = 0; behind <= 23; behind++) {
-            RealmTiles x = gameOfAll(2, Tile.MEADOW, behind + 1);
+            RealmTiles x = Tile.gameOfAll(2, Tile.MEADOW, behind + 1);
             Check.due("left", x.game(5), behind);
             Check.due("search with " + behind + " behind", x.search(1500), behind <= 1 ? 1000 : NONE);
             Check.due("no budget with " + behind + " behind", x.search(0), behind <= 1 ? BAD : NONE);
@@ -106,6 +100,9 @@ public final class SearchEdgesTest {
         }
         Check.due("search(1)", x.search(1), SPENT);
         Check.due("search(1500)", x.search(1500), 1000);
+        x.place(0, -1, 2);
+        Check.due("search(0) when none is to be laid", x.search(0), NONE);
+        Check.due("search(1501) when none is to be laid", x.search(1501), NONE);
     }
 
     /** One place and turn, and no follower left: one position. Fourteen followers stand on a field and on cloisters. */
@@ -160,7 +157,7 @@ public final class SearchEdgesTest {
         // city with a follower, 8 at the other one, but 4 if the second gate's follower is there.
         positions(x, 2 + 9 * (3 + 12 + 12 + 8), 999);
         best("4 for the city of player 0, 3 for the field", x, 0, -1, 2, 1);
-        x = gameOfAll(2, Tile.MEADOW, 2);
+        x = Tile.gameOfAll(2, Tile.MEADOW, 2);
         // 4 turns with or without a follower; behind these 16 spots, and if there was none, with one or without.
         positions(x, 8 + 4 * 16 + 4 * 32, 1000);
     }
@@ -168,21 +165,21 @@ public final class SearchEdgesTest {
     private static void linesInOrder() {
         Check.sentence("Promise 15: lines go by places and turns as fits() has them, then none, then parts. [..] The BEST "
             + "line for a player is the first one of those");
-        RealmTiles x = gameOfAll(2, Tile.MEADOW, 1);
+        RealmTiles x = Tile.gameOfAll(2, Tile.MEADOW, 1);
         x.search(1500);
         best("all are equal: none comes first", x, 0, 0, 0, NONE);
-        x = gameOfAll(2, Tile.MEADOW, 3);
+        x = Tile.gameOfAll(2, Tile.MEADOW, 3);
         Tile.turn(x, 0, 0, 0, -1, 0);
         Tile.turn(x, 1, 0, 0, -1, 0);
         x.search(1500);
         best("all are equal: the first place", x, 0, -1, 0, NONE);
-        x = gameOfAll(2, Tile.of("000111222333", "CCCC"), 1);
+        x = Tile.gameOfAll(2, Tile.of("000111222333", "CCCC"), 1);
         Check.due("value", x.search(1500), 1001);
         best("four cities are equal: the first part and turn", x, 0, 0, 0, 0);
-        x = gameOfAll(2, Tile.of("333333333333", "M..F"), 1);
+        x = Tile.gameOfAll(2, Tile.of("333333333333", "M..F"), 1);
         Check.due("value", x.search(1500), 1001);
         best("a cloister before the field", x, 0, 0, 0, 0);
-        x = gameOfAll(2, Tile.of("000000000000", "F......M"), 1);
+        x = Tile.gameOfAll(2, Tile.of("000000000000", "F......M"), 1);
         Check.due("value", x.search(1500), 1001);
         best("a cloister at the last part", x, 0, 0, 0, 7);
     }
@@ -205,7 +202,7 @@ public final class SearchEdgesTest {
     private static void nextPlayersBestLine() {
         Check.sentence("Promise 15: else what comes of the best line of the next player");
         // Player 0 takes the cloister, player 1 takes one beside it: 2 and 2; without a follower it would be 0 and 2.
-        RealmTiles x = gameOfAll(2, Tile.ABBEY, 2);
+        RealmTiles x = Tile.gameOfAll(2, Tile.ABBEY, 2);
         positions(x, 12 + 12 * 16 * 3 - 4 * 16, 1000);
         best("the cloister", x, 0, 0, 0, 1);
         // Of three, player 2 has the city that both others must enlarge: that is bad for both, not good for one of them.
@@ -286,7 +283,7 @@ public final class SearchEdgesTest {
         x.undo();
         x.search(1500);
         best("none to lay", x);
-        x = gameOfAll(2, Tile.MEADOW, 3);
+        x = Tile.gameOfAll(2, Tile.MEADOW, 3);
         x.search(1500);
         best("too many left", x);
     }
@@ -334,7 +331,7 @@ public final class SearchEdgesTest {
     }
 
     private static void bestAfterRefusedCalls() {
-        RealmTiles x = gameOfAll(2, Tile.ABBEY, 2);
+        RealmTiles x = Tile.gameOfAll(2, Tile.ABBEY, 2);
         x.search(1500);
         best("found", x, 0, 0, 0, 1);
         Check.due("undo", x.undo(), false);
@@ -355,7 +352,7 @@ public final class SearchEdgesTest {
 
     private static void bestOfNoFollower() {
         Check.sentence("Promise 16: k = 0 x, 1 y, 2 the turn, 3 the part, or NONE for no follower");
-        RealmTiles x = gameOfAll(2, Tile.MEADOW, 1);
+        RealmTiles x = Tile.gameOfAll(2, Tile.MEADOW, 1);
         x.search(1500);
         Check.due("no follower", x.best(3), NONE);
         x = Tile.gameOf(2, Tile.GATE, Tile.GATE);

@@ -139,6 +139,13 @@ public final class SetUpEdgesTest {
                 Check.due("and a shield", type(0, part == 0 ? kind | SHIELD : FIELD | (kind | SHIELD) << 8 * part, 0), BAD);
             }
         }
+        for (int part = 0; part < 8; part++) {
+            for (int bit = 4; bit < 8; bit++) {
+                long slots = 0x111111111111L * part;
+                Check.due("bit " + bit + " of a city", type(slots, (1 | 1L << bit) << 8 * part, 0), BAD);
+                Check.due("bit " + bit + " of a shield", type(slots, (9 | 1L << bit) << 8 * part, 0), BAD);
+            }
+        }
         Check.due("the highest bit that may be set", type(0x777777777777L, FIELD << 56, 0), 0);
         Check.due("all bits", type(-1, -1, -1), BAD);
     }
@@ -417,17 +424,28 @@ public final class SetUpEdgesTest {
                 Check.due("list", x.draw(11), n + 1);
             }
         }
-        // The new types of old numbers have nothing of the old ones.
-        Tile plain = Tile.of("777777777777", ".......F");
-        RealmTiles x = gameAfter(6, 3);
-        x.clear();
-        Check.due("type 0", plain.giveTo(x), 0);
-        Check.due("list", x.draw(0), 1);
-        Check.due("list", x.draw(0), 2);
-        Check.due("start", x.start(2), true);
-        RealmTiles fresh = Tile.gameOf(2, plain, plain);
-        Tile.turn(x, 0, 0, 0, 7, 0);
-        Tile.turn(fresh, 0, 0, 0, 7, 0);
-        Snapshot.of(fresh).holdsFor("a game after clear()", x);
+        clearsTypes();
+    }
+
+    /** New types of old numbers have nothing of the old ones: of a shield, a touch, a cloister or slots. */
+    private static void clearsTypes() {
+        Tile full = Tile.of("000145222111", "SFCMPF", 1, 0, 1, 2);
+        String[] plain = {"000111111111", "CF", "111000000000", "FC", "222777777777", "..C....F"};
+        for (int n = 0; n < 6; n += 2) {
+            Tile tile = Tile.of(plain[n], plain[n + 1]);
+            int field = plain[n + 1].indexOf('F');
+            RealmTiles x = Tile.gameOf(2, full, full);
+            x.clear();
+            Check.due("type 0", tile.giveTo(x), 0);
+            x.draw(0);
+            x.draw(0);
+            Check.due("start", x.start(2), true);
+            RealmTiles fresh = Tile.gameOf(2, tile, tile);
+            for (RealmTiles y : new RealmTiles[] {x, fresh}) {
+                Tile.turn(y, 0, 0, 0, field, 0);
+                y.place(y.fits(0, 0), y.fits(0, 1), y.fits(0, 2));
+            }
+            Snapshot.of(fresh).holdsFor("a game after clear()", x);
+        }
     }
 }

@@ -1,5 +1,3 @@
-import java.util.Arrays;
-
 /** The boundary cases of promises 9 to 11, sentence by sentence: place, follow and undo. */
 public final class StepEdgesTest {
     private static final int NONE = RealmTiles.NONE, BAD = RealmTiles.BAD;
@@ -26,12 +24,6 @@ public final class StepEdgesTest {
         Check.end();
     }
 
-    private static RealmTiles gameOfAll(int players, Tile tile, int count) {
-        Tile[] tiles = new Tile[count];
-        Arrays.fill(tiles, tile);
-        return Tile.gameOf(players, tiles);
-    }
-
     private static void refusedPlace(RealmTiles x, int px, int py, int turn) {
         Check.due("place(" + px + ", " + py + ", " + turn + ")", x.place(px, py, turn), BAD);
     }
@@ -50,7 +42,7 @@ public final class StepEdgesTest {
         Check.due("it is the drawn one", x.about(8, 0), RealmTiles.CITY);
         x.undo();
         Check.due("laid otherwise", x.place(-1, 0, 3), 1);
-        x = gameOfAll(3, Tile.MEADOW, 24);
+        x = Tile.gameOfAll(3, Tile.MEADOW, 24);
         for (int n = 0; n < 24; n++) {
             Check.due("place", x.place(n % 8, n / 8, 0), n);
             x.follow(-1);
@@ -84,7 +76,7 @@ public final class StepEdgesTest {
 
     private static void placeOutside() {
         Check.sentence("Promise 9: BAD, refused, when [..] it does not fit there (x and y from -9 to 9)");
-        RealmTiles x = gameOfAll(2, Tile.MEADOW, 3);
+        RealmTiles x = Tile.gameOfAll(2, Tile.MEADOW, 3);
         Snapshot before = Snapshot.of(x);
         for (int odd : ODD) {
             refusedPlace(x, odd, 0, 0);
@@ -95,7 +87,7 @@ public final class StepEdgesTest {
         }
         before.holds();
         Tile.turn(x, 0, 0, 0, -1, 0);
-        x = gameOfAll(2, Tile.MEADOW, 12);
+        x = Tile.gameOfAll(2, Tile.MEADOW, 12);
         for (int n = 0; n < 10; n++) {
             Tile.turn(x, n, 0, 0, -1, 0);
         }
@@ -108,7 +100,7 @@ public final class StepEdgesTest {
 
     private static void placeInNoTurn() {
         Check.sentence("Promise 9: BAD, refused, when [..] it does not fit there (a TURN 0 .. 3)");
-        RealmTiles x = gameOfAll(2, Tile.MEADOW, 2);
+        RealmTiles x = Tile.gameOfAll(2, Tile.MEADOW, 2);
         Snapshot before = Snapshot.of(x);
         for (int px = -2; px <= 2; px++) {
             for (int turn = -8; turn < 12; turn++) {
@@ -151,7 +143,7 @@ public final class StepEdgesTest {
 
     private static void followNone() {
         Check.sentence("Promise 10: or, with part = -1, none");
-        RealmTiles x = gameOfAll(2, Tile.ABBEY, 2);
+        RealmTiles x = Tile.gameOfAll(2, Tile.ABBEY, 2);
         x.place(0, 0, 0);
         Check.due("follow(-1)", x.follow(-1), 0);
         Check.due("followers left", x.player(0, 1), 7);
@@ -163,7 +155,7 @@ public final class StepEdgesTest {
 
     private static void pointsOfAll() {
         Check.sentence("Promise 10: the points that all got by that, together");
-        RealmTiles x = gameOfAll(2, Tile.MEADOW, 1);
+        RealmTiles x = Tile.gameOfAll(2, Tile.MEADOW, 1);
         x.place(0, 0, 0);
         Check.due("none", x.follow(0), 0);
         x = Tile.gameOf(2, Tile.END, Tile.MEADOW, Tile.END);
@@ -188,7 +180,7 @@ public final class StepEdgesTest {
         Check.sentence("Promise 10: BAD, refused, when no tile is laid in this turn");
         RealmTiles x = new RealmTiles();
         refusedFollow(x, -1);
-        x = gameOfAll(2, Tile.ABBEY, 2);
+        x = Tile.gameOfAll(2, Tile.ABBEY, 2);
         for (int n = 0; n < 2; n++) {
             Snapshot before = Snapshot.of(x);
             for (int part = -1; part < 3; part++) {
@@ -209,7 +201,7 @@ public final class StepEdgesTest {
 
     private static void followOnNoPart() {
         Check.sentence("Promise 10: BAD, refused, when [..] there is no such part");
-        RealmTiles x = gameOfAll(2, Tile.of("333333333333", "...F.M"), 4);
+        RealmTiles x = Tile.gameOfAll(2, Tile.of("333333333333", "...F.M"), 4);
         Tile.turn(x, 0, 0, 0, -1, 0);
         Tile.turn(x, 1, 0, 0, -1, 0);
         x.place(2, 0, 0);
@@ -227,7 +219,7 @@ public final class StepEdgesTest {
         Check.due("a part that is there", x.follow(5), 0);
         Check.due("its follower", x.about(21, 5), 1);
         // A tile of all parts: none is behind its last one, nor before its first one.
-        x = gameOfAll(2, Tile.of("041152263370", "FFFFPPPP"), 2);
+        x = Tile.gameOfAll(2, Tile.of("041152263370", "FFFFPPPP"), 2);
         x.place(0, 0, 0);
         refusedFollow(x, 8);
         refusedFollow(x, -2);
@@ -249,7 +241,7 @@ public final class StepEdgesTest {
         x.undo();
         Check.due("the other one is scored, but a field is not", x.follow(1), 0);
         Check.due("points", x.player(0, 0), 4);
-        x = gameOfAll(2, Tile.MEADOW, 3);
+        x = Tile.gameOfAll(2, Tile.MEADOW, 3);
         Tile.turn(x, 0, 0, 0, 0, 0);
         Tile.turn(x, 1, 0, 0, -1, 0);
         x.place(2, 0, 0);
@@ -261,7 +253,7 @@ public final class StepEdgesTest {
 
     private static void followWithNoneLeft() {
         Check.sentence("Promise 10: BAD, refused, when [..] it may not be put there (the player has one left)");
-        RealmTiles x = gameOfAll(3, Tile.ABBEY, 24);
+        RealmTiles x = Tile.gameOfAll(3, Tile.ABBEY, 24);
         for (int n = 0; n < 21; n++) {
             int px = n < 10 ? n : n < 20 ? 9 : 8;
             int py = n < 10 ? 0 : n < 19 ? n - 9 : n == 19 ? -1 : 9;
@@ -307,7 +299,7 @@ public final class StepEdgesTest {
 
     private static void undoOfAll() {
         Check.sentence("Promise 11: Takes the last step back. Answers true; false, refused, when there is none");
-        RealmTiles x = gameOfAll(3, Tile.ABBEY, 24);
+        RealmTiles x = Tile.gameOfAll(3, Tile.ABBEY, 24);
         Snapshot begun = Snapshot.of(x);
         for (int n = 0; n < 24; n++) {
             Check.due("place", x.place(n % 5, n / 5, n % 4), n);

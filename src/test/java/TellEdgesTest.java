@@ -32,12 +32,6 @@ public final class TellEdgesTest {
         Check.end();
     }
 
-    private static RealmTiles gameOfAll(int players, Tile tile, int count) {
-        Tile[] tiles = new Tile[count];
-        Arrays.fill(tiles, tile);
-        return Tile.gameOf(players, tiles);
-    }
-
     private static void drawn() {
         Check.sentence("Promise 6: The type of the tile that is drawn and not laid");
         RealmTiles x = Tile.gameOf(2, Tile.MEADOW, Tile.CORE, Tile.GATE, Tile.ROAD);
@@ -119,7 +113,7 @@ public final class TellEdgesTest {
 
     private static void mayFollow() {
         Check.sentence("Promise 7: 4: 1 if a tile is laid and a follower may follow, else 0");
-        RealmTiles x = gameOfAll(2, Tile.ABBEY, 1);
+        RealmTiles x = Tile.gameOfAll(2, Tile.ABBEY, 1);
         Check.due("begun", x.game(4), 0);
         x.place(0, 0, 0);
         Check.due("laid", x.game(4), 1);
@@ -158,7 +152,7 @@ public final class TellEdgesTest {
 
     private static void gameOfNoK() {
         Check.sentence("Promise 7: BAD when k is none of these");
-        RealmTiles[] all = {new RealmTiles(), gameOfAll(2, Tile.ABBEY, 2)};
+        RealmTiles[] all = {new RealmTiles(), Tile.gameOfAll(2, Tile.ABBEY, 2)};
         all[1].place(0, 0, 0);
         for (RealmTiles x : all) {
             Check.due("game(-1)", x.game(-1), BAD);
@@ -172,7 +166,7 @@ public final class TellEdgesTest {
     private static void orderOfFits() {
         Check.sentence("Promise 8: Of the i-th place and turn at which the drawn tile fits (from 0, by y, then x, then "
             + "turns): k = 0 x, 1 y, 2 the turn");
-        RealmTiles x = gameOfAll(2, Tile.MEADOW, 3);
+        RealmTiles x = Tile.gameOfAll(2, Tile.MEADOW, 3);
         for (int turn = 0; turn < 4; turn++) {
             Check.due("x of the first tile", x.fits(turn, 0), 0);
             Check.due("y of the first tile", x.fits(turn, 1), 0);
@@ -187,13 +181,13 @@ public final class TellEdgesTest {
             Check.due("turn", x.fits(i, 2), i % 4);
         }
         // The first and the last place of the table.
-        x = gameOfAll(2, Tile.MEADOW, 20);
+        x = Tile.gameOfAll(2, Tile.MEADOW, 20);
         for (int n = 0; n < 18; n++) {
             Tile.turn(x, n < 10 ? -n : -9, n < 10 ? 0 : 9 - n, 0, -1, 0);
         }
         Check.due("x of the first place", x.fits(0, 0), -9);
         Check.due("y of the first place", x.fits(3, 1), -9);
-        x = gameOfAll(2, Tile.MEADOW, 20);
+        x = Tile.gameOfAll(2, Tile.MEADOW, 20);
         for (int n = 0; n < 18; n++) {
             Tile.turn(x, n < 10 ? n : 9, n < 10 ? 0 : n - 9, 0, -1, 0);
         }
@@ -208,7 +202,7 @@ public final class TellEdgesTest {
 
     private static void fitsBeyond() {
         Check.sentence("Promise 8: FAR when there are not so many");
-        RealmTiles x = gameOfAll(2, Tile.GATE, 2);
+        RealmTiles x = Tile.gameOfAll(2, Tile.GATE, 2);
         for (int k = 0; k < 3; k++) {
             Check.due("the last", x.fits(3, k) != FAR, true);
             Check.due("one more", x.fits(4, k), FAR);
@@ -245,7 +239,7 @@ public final class TellEdgesTest {
 
     private static void fitsOfNoK() {
         Check.sentence("Promise 8: FAR when [..] k is none of these");
-        RealmTiles x = gameOfAll(2, Tile.GATE, 1);
+        RealmTiles x = Tile.gameOfAll(2, Tile.GATE, 1);
         for (int i = 0; i < 4; i++) {
             Check.due("k = -1", x.fits(i, -1), FAR);
             Check.due("k = 3", x.fits(i, 3), FAR);
@@ -259,7 +253,7 @@ public final class TellEdgesTest {
         Check.sentence("Promise 12: NONE when there is no such tile");
         RealmTiles x = new RealmTiles();
         Check.due("new object", x.region(0, 0, 0), NONE);
-        x = gameOfAll(2, Tile.ABBEY, 2);
+        x = Tile.gameOfAll(2, Tile.ABBEY, 2);
         Check.due("begun", x.region(0, 0, 0), NONE);
         x.place(0, 0, 0);
         Check.due("laid", x.region(0, 0, 0), 0);
@@ -281,7 +275,7 @@ public final class TellEdgesTest {
 
     private static void regionOfNoPart() {
         Check.sentence("Promise 12: NONE when there is no such [..] part");
-        RealmTiles x = gameOfAll(2, Tile.of("333333333333", "...F.M"), 3);
+        RealmTiles x = Tile.gameOfAll(2, Tile.of("333333333333", "...F.M"), 3);
         Tile.turn(x, 0, 0, 0, -1, 0);
         Tile.turn(x, 1, 0, 0, -1, 0);
         Tile.turn(x, 2, 0, 0, -1, 0);
@@ -290,6 +284,14 @@ public final class TellEdgesTest {
         }
         for (int part : ODD) {
             Check.due("part " + part, x.region(1, 0, part), NONE);
+        }
+        // Of three tiles with all parts, the one in the midst has those of no other.
+        x = Tile.gameOfAll(2, Tile.of("041152263370", "FFFFPPPP"), 3);
+        Tile.turn(x, 0, 0, 0, -1, 0);
+        Tile.turn(x, 1, 0, 0, -1, 0);
+        Tile.turn(x, 2, 0, 0, -1, 0);
+        for (int part = -16; part < 24; part++) {
+            Check.due("part " + part + " of eight", x.region(1, 0, part) != NONE, part >= 0 && part < 8);
         }
     }
 
@@ -301,7 +303,7 @@ public final class TellEdgesTest {
         int[][] due = {{1, 1, 1, 3, 0}, {3, 1, 0, 7, 0}, {2, 1, 0, 1, 0}, {3, 1, 0, 1, 0}, null, {4, 1, 0, 0, 0}};
         for (int players = 2; players <= 3; players++) {
             for (int part = 0; part < 6; part++) {
-                RealmTiles x = gameOfAll(players, all, 1);
+                RealmTiles x = Tile.gameOfAll(players, all, 1);
                 Tile.turn(x, 0, 0, 0, part == 4 ? -1 : part, 0);
                 for (int number = 0; number < 6; number++) {
                     for (int k = 0; k < 5; k++) {
@@ -320,7 +322,7 @@ public final class TellEdgesTest {
     private static void aboutNoRegion() {
         Check.sentence("Promise 13: NONE when no region has this number");
         Check.due("new object", new RealmTiles().about(0, 0), NONE);
-        RealmTiles x = gameOfAll(2, Tile.ABBEY, 3);
+        RealmTiles x = Tile.gameOfAll(2, Tile.ABBEY, 3);
         Check.due("begun", x.about(0, 0), NONE);
         Tile.turn(x, 0, 0, 0, -1, 0);
         x.place(1, 0, 0);
@@ -341,7 +343,7 @@ public final class TellEdgesTest {
 
     private static void aboutNoK() {
         Check.sentence("Promise 13: NONE when [..] k is none of these");
-        RealmTiles x = gameOfAll(3, Tile.ABBEY, 1);
+        RealmTiles x = Tile.gameOfAll(3, Tile.ABBEY, 1);
         Tile.turn(x, 0, 0, 0, 1, 0);
         for (int number = 0; number < 2; number++) {
             Check.due("k = -1", x.about(number, -1), NONE);
@@ -407,7 +409,7 @@ public final class TellEdgesTest {
 
     private static void playerOfNoK() {
         Check.sentence("Promise 14: NONE when [..] k is none of these");
-        RealmTiles x = gameOfAll(3, Tile.ABBEY, 1);
+        RealmTiles x = Tile.gameOfAll(3, Tile.ABBEY, 1);
         for (int p = 0; p < 3; p++) {
             Check.due("k = -1", x.player(p, -1), NONE);
             Check.due("k = 3", x.player(p, 3), NONE);

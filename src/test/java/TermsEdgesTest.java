@@ -29,12 +29,6 @@ public final class TermsEdgesTest {
         Check.end();
     }
 
-    private static RealmTiles gameOfAll(int players, Tile tile, int count) {
-        Tile[] tiles = new Tile[count];
-        Arrays.fill(tiles, tile);
-        return Tile.gameOf(players, tiles);
-    }
-
     private static void twelveTypesInOneGame() {
         Check.sentence("Terms: TYPES of tiles are numbered 0, 1, .. as they are given, at most 12.");
         RealmTiles x = new RealmTiles();
@@ -60,7 +54,7 @@ public final class TermsEdgesTest {
 
     private static void eightParts() {
         Check.sentence("Terms: Its PARTS are some of 0 .. 7");
-        RealmTiles x = gameOfAll(2, CROSSING, 1);
+        RealmTiles x = Tile.gameOfAll(2, CROSSING, 1);
         x.place(0, 0, 0);
         for (int part = 0; part < 8; part++) {
             Check.due("part " + part, x.region(0, 0, part), part);
@@ -78,7 +72,7 @@ public final class TermsEdgesTest {
         for (int corner = 0; corner < 4; corner++) {
             int sx = corner % 2 * 2 - 1;
             int sy = corner / 2 * 2 - 1;
-            RealmTiles x = gameOfAll(2, Tile.MEADOW, 24);
+            RealmTiles x = Tile.gameOfAll(2, Tile.MEADOW, 24);
             for (int n = 0; n < 10; n++) {
                 Tile.turn(x, n * sx, 0, 0, -1, 0);
             }
@@ -136,7 +130,7 @@ public final class TermsEdgesTest {
         Check.sentence("Terms: Two places are NEIGHBOURS when they have a side in common.");
         for (int dx = -2; dx <= 2; dx++) {
             for (int dy = -2; dy <= 2; dy++) {
-                RealmTiles x = gameOfAll(2, Tile.MEADOW, 2);
+                RealmTiles x = Tile.gameOfAll(2, Tile.MEADOW, 2);
                 Tile.turn(x, 0, 0, 0, -1, 0);
                 boolean side = Math.abs(dx) + Math.abs(dy) == 1;
                 Check.due("place(" + dx + ", " + dy + ", 0)", x.place(dx, dy, 0), side ? 1 : BAD);
@@ -147,7 +141,7 @@ public final class TermsEdgesTest {
 
     private static void tileNumbers() {
         Check.sentence("Terms: The tiles on the table are numbered 0, 1, .. as they were laid.");
-        RealmTiles x = gameOfAll(3, Tile.ABBEY, 24);
+        RealmTiles x = Tile.gameOfAll(3, Tile.ABBEY, 24);
         for (int n = 0; n < 24; n++) {
             int px = n % 8;
             Check.due("place", x.place(px, n / 8, 0), n);
@@ -162,7 +156,7 @@ public final class TermsEdgesTest {
 
     private static void taken() {
         Check.sentence("Terms: A tile FITS at a place in a turn when no tile is there");
-        RealmTiles x = gameOfAll(2, Tile.CORE, 3);
+        RealmTiles x = Tile.gameOfAll(2, Tile.CORE, 3);
         Tile.turn(x, 0, 0, 0, -1, 0);
         Tile.turn(x, 1, 0, 0, -1, 0);
         for (int turn = 0; turn < 4; turn++) {
@@ -176,7 +170,7 @@ public final class TermsEdgesTest {
 
     private static void firstPlace() {
         Check.sentence("Terms: there is a neighbour with a tile (or, if there are none on the table, it is (0, 0))");
-        RealmTiles x = gameOfAll(2, Tile.MEADOW, 2);
+        RealmTiles x = Tile.gameOfAll(2, Tile.MEADOW, 2);
         for (int px = -9; px <= 9; px++) {
             for (int py = -9; py <= 9; py++) {
                 if (px != 0 || py != 0) {
@@ -216,7 +210,7 @@ public final class TermsEdgesTest {
 
     private static void greatestId() {
         Check.sentence("Terms: its ID is 8 times the tile's number plus the part");
-        RealmTiles x = gameOfAll(2, Tile.of("000000000000", "F......M"), 24);
+        RealmTiles x = Tile.gameOfAll(2, Tile.of("000000000000", "F......M"), 24);
         for (int n = 0; n < 24; n++) {
             Tile.turn(x, n % 8, n / 8, 0, n >= 22 ? 7 : -1, 0);
             Check.due("the cloister's region", x.region(n % 8, n / 8, 7), 8 * n + 7);
@@ -229,28 +223,30 @@ public final class TermsEdgesTest {
         Check.due("no such ID", x.about(199, 0), NONE);
     }
 
-    /** Two cities of the first tile, in the east and in the west, are joined by a ring that begins in the west. */
+    /** Two cities of the first tile, 1 and 3, are joined by a ring that begins at 3; and the same the other way round. */
     private static void leastId() {
         Check.sentence("Terms: its NUMBER is the least ID");
         Tile[] tiles = new Tile[8];
         Arrays.fill(tiles, Tile.CORE);
         tiles[0] = Tile.of("000111222333", "FCFC");
-        RealmTiles x = Tile.gameOf(2, tiles);
-        Tile.turn(x, 0, 0, 0, -1, 0);
         int[] ring = {-1, 0, -1, 1, -1, 2, 0, 2, 1, 2, 1, 1};
-        for (int n = 0; n < 6; n++) {
-            Tile.turn(x, ring[2 * n], ring[2 * n + 1], 0, -1, 0);
-            Check.due("the ring's number", x.region(ring[2 * n], ring[2 * n + 1], 0), 3);
-            Check.due("the core's own ID", x.about(8 * n + 8, 0), NONE);
+        for (int way = 1; way >= -1; way -= 2) {
+            RealmTiles x = Tile.gameOf(2, tiles);
+            Tile.turn(x, 0, 0, 1 - way, -1, 0);
+            for (int n = 0; n < 6; n++) {
+                Tile.turn(x, way * ring[2 * n], ring[2 * n + 1], 0, -1, 0);
+                Check.due("the ring's number", x.region(way * ring[2 * n], ring[2 * n + 1], 0), 3);
+                Check.due("the core's own ID", x.about(8 * n + 8, 0), NONE);
+            }
+            x.place(way, 0, 0);
+            Check.due("the last of the ring", x.region(way, 0, 0), 1);
+            Check.due("the first of the ring", x.region(-way, 0, 0), 1);
+            Check.due("the second city", x.region(0, 0, 3), 1);
+            Check.due("its old number", x.about(3, 0), NONE);
+            x.undo();
+            Check.due("the second city, taken back", x.region(0, 0, 3), 3);
+            Check.due("the first city, taken back", x.region(0, 0, 1), 1);
         }
-        x.place(1, 0, 0);
-        Check.due("the last of the ring", x.region(1, 0, 0), 1);
-        Check.due("the first of the ring", x.region(-1, 0, 0), 1);
-        Check.due("the city in the west", x.region(0, 0, 3), 1);
-        Check.due("its old number", x.about(3, 0), NONE);
-        x.undo();
-        Check.due("the city in the west, taken back", x.region(0, 0, 3), 3);
-        Check.due("the city in the east, taken back", x.region(0, 0, 1), 1);
     }
 
     private static void tilesOnce() {
@@ -271,7 +267,7 @@ public final class TermsEdgesTest {
 
     private static void allTilesInOneRegion() {
         Check.sentence("Terms: THE LIST has the types of at most 24 tiles.");
-        RealmTiles x = gameOfAll(2, Tile.CROWN, 24);
+        RealmTiles x = Tile.gameOfAll(2, Tile.CROWN, 24);
         for (int n = 0; n < 24; n++) {
             Tile.turn(x, n % 6, n / 6, 0, -1, 0);
         }
@@ -285,7 +281,7 @@ public final class TermsEdgesTest {
 
     private static void openSlots() {
         Check.sentence("Terms: OPEN slots (beside which no tile lies)");
-        RealmTiles x = gameOfAll(2, Tile.CORE, 11);
+        RealmTiles x = Tile.gameOfAll(2, Tile.CORE, 11);
         Tile.turn(x, 0, 0, 0, -1, 0);
         Check.due("all twelve", x.about(0, 3), 12);
         for (int n = 1; n < 10; n++) {
@@ -337,7 +333,7 @@ public final class TermsEdgesTest {
         Check.sentence("Terms: or a cloister with tiles at all eight places around it");
         int[] ring = {0, -1, 1, -1, 1, 0, 1, 1, 0, 1, -1, 1, -1, 0, -1, -1};
         for (int first = 0; first < 8; first += 2) {
-            RealmTiles x = gameOfAll(2, Tile.ABBEY, 9);
+            RealmTiles x = Tile.gameOfAll(2, Tile.ABBEY, 9);
             Tile.turn(x, 0, 0, 0, -1, 0);
             for (int n = 0; n < 8; n++) {
                 int at = (first + n) % 8;
@@ -354,7 +350,7 @@ public final class TermsEdgesTest {
 
     /** Beyond the end of the table no tile lies: five at most are around a place there, and three in the corner. */
     private static void cloisterAtTheEnd() {
-        RealmTiles x = gameOfAll(2, Tile.ABBEY, 24);
+        RealmTiles x = Tile.gameOfAll(2, Tile.ABBEY, 24);
         for (int n = 0; n < 9; n++) {
             Tile.turn(x, n, 0, 0, -1, 0);
         }

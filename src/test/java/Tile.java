@@ -1,3 +1,5 @@
+import java.util.Arrays;
+
 /** A type of tiles in readable form: the part of each slot, and the kind of each part. */
 final class Tile {
     static final Tile MEADOW = of("000000000000", "F");
@@ -65,7 +67,7 @@ final class Tile {
         return x.type(slots, kinds, touches);
     }
 
-    /** A new object with a game of these tiles, each of a type of its own. */
+    /** A new object with a game of these tiles. */
     static RealmTiles gameOf(int players, Tile... tiles) {
         RealmTiles x = new RealmTiles();
         Tile[] given = new Tile[12];
@@ -83,6 +85,13 @@ final class Tile {
         }
         Check.due("start", x.start(players), true);
         return x;
+    }
+
+    /** A new object with a game of tiles of one type. */
+    static RealmTiles gameOfAll(int players, Tile tile, int count) {
+        Tile[] tiles = new Tile[count];
+        Arrays.fill(tiles, tile);
+        return gameOf(players, tiles);
     }
 
     /** One turn of which every step must be right. */

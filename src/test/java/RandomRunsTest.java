@@ -111,18 +111,17 @@ public final class RandomRunsTest {
 
     private void layOne() {
         int fits = 0;
-        while (plain.fits(fits, 0) != RealmTiles.FAR && fits < 40) {
+        while (plain.fits(fits, 0) != RealmTiles.FAR && fits < 60) {
             fits++;
         }
         same("fits(" + fits + ", 0)", x.fits(fits, 0), plain.fits(fits, 0));
         if (fits == 0) {
             return;
         }
-        // Places with many tiles around them are taken more often, so that regions are finished and cloisters surrounded.
         int i = any(fits);
         for (int n = 0; n < 6; n++) {
             int other = any(fits);
-            if (around(other) > around(i)) {
+            if (liking(other) > liking(i)) {
                 i = other;
             }
         }
@@ -133,6 +132,17 @@ public final class RandomRunsTest {
         int py = plain.fits(i, 1);
         int turn = plain.fits(i, 2);
         same("place(" + px + ", " + py + ", " + turn + ")", x.place(px, py, turn), plain.place(px, py, turn));
+    }
+
+    /**
+     * Places with many tiles around them are taken more often, so that regions are finished and cloisters surrounded;
+     * but some long runs go to the east or to the west, so that they come to the end of the places there.
+     */
+    private int liking(int i) {
+        if (run % 6 == 5) {
+            return run % 4 == 1 ? plain.fits(i, 0) : -plain.fits(i, 0);
+        }
+        return around(i);
     }
 
     private int around(int i) {
